@@ -112,7 +112,7 @@ public final class DyeVats {
         boolean read = spareRecipe.read(tape, n);
         tape.clear();
         if (!read) {
-            return tape.fault();
+            return tape.fault;
         }
         Recipe before = recipes[w];
         recipes[w] = spareRecipe;
@@ -128,7 +128,7 @@ public final class DyeVats {
         boolean read = specReader.read(spareRule, n);
         tape.clear();
         if (!read) {
-            return tape.fault();
+            return tape.fault;
         }
         Spec before = rule;
         rule = spareRule;
@@ -443,7 +443,8 @@ public final class DyeVats {
         int length;
         private int place;
         private int end;
-        private int fault;
+        // The answer for the FAULT that was found last.
+        int fault;
 
         boolean hasRoom() {
             return length + FED <= MOST_BYTES;
@@ -486,7 +487,7 @@ public final class DyeVats {
 
         // The byte that is read next; NONE is the end.
         int sign() {
-            return place < end ? at(place) : NONE;
+            return place < end && place < MOST_BYTES ? bytes[place] & 255 : NONE;
         }
 
         void skip() {
@@ -512,10 +513,6 @@ public final class DyeVats {
         boolean refuse(int number) {
             fault = -1000 * number - place;
             return false;
-        }
-
-        int fault() {
-            return fault;
         }
     }
 
@@ -1018,6 +1015,7 @@ public final class DyeVats {
         static final int KNOWN_CLOTH = 13;
         static final int KNOWN_STEPS = 14;
         static final int KNOWN_ENDED = 15;
+        private static final int FIRST_WAIT = 8;
 
         private final Vats vats;
         final int[] begin = new int[VATS];
@@ -1028,6 +1026,13 @@ public final class DyeVats {
         int steps;
         int place;
         int ended;
+        // A standing on the way, by which a RUN in a ROUND is felt.
+        private final int[] markNow = new int[VATS];
+        private int markPlace;
+        private int markSteps;
+        private int markSpilt;
+        private int markCloth;
+        private int markColour;
 
         Course(Vats vats) {
             this.vats = vats;
@@ -1073,15 +1078,60 @@ public final class DyeVats {
         }
 
         void go(Recipe recipe, int limit) {
+            int wait = FIRST_WAIT;
+            mark();
             for (int i = 0; i <= limit && ended == 0; i++) {
-                if (isOver(recipe)) {
+                if (place >= recipe.size) {
                     ended = ENDED_LAST;
                 } else if (steps >= limit) {
                     ended = ENDED_LIMIT;
                 } else {
                     step(recipe, 1);
+                    if (place == markPlace && isAtMark()) {
+                        leap(limit);
+                    } else if (steps - markSteps >= wait) {
+                        mark();
+                        wait *= 2;
+                    }
                 }
             }
+        }
+
+        private void mark() {
+            copyMeasures(now, markNow);
+            markPlace = place;
+            markSteps = steps;
+            markSpilt = spilt;
+            markCloth = cloth;
+            markColour = colour;
+        }
+
+        private boolean isAtMark() {
+            for (int v = 0; v < VATS; v++) {
+                if (now[v] != markNow[v]) {
+                    return false;
+                }
+            }
+            return true;
+        }
+
+        // Back at the mark, all goes on as it went since: as many ROUNDS as the LIMIT has room for are
+        // reckoned at once, as most RUNS that end by their LIMIT are short ROUNDS.
+        private void leap(int limit) {
+            int length = steps - markSteps;
+            int rounds = length > 0 ? (limit - steps) / length : 0;
+            int taken = cloth - markCloth;
+            int factor = 1;
+            for (int i = 0; i < taken; i++) {
+                factor = 7 * factor % COLOURS;
+            }
+            int more = Math.floorMod(colour - factor * markColour, COLOURS);
+            for (int i = 0; i < rounds; i++) {
+                colour = (factor * colour + more) % COLOURS;
+            }
+            spilt += rounds * (spilt - markSpilt);
+            cloth += rounds * taken;
+            steps += rounds * length;
         }
 
         // One STEP; what changes MEASURES is done so many times.
@@ -1366,6 +1416,10 @@ public final class DyeVats {
         final int[] row = new int[MOST_ACTS];
         private final int[] base = new int[VATS];
         private final int[] weight = new int[VATS];
+        // What each ACT is, by its number.
+        private final int[] item = new int[ACTS];
+        private final int[] first = new int[ACTS];
+        private final int[] second = new int[ACTS];
         // Where a standing was come to from, and by which ACT; 0: not yet.
         private final int[] from = new int[STANDINGS];
         private final int[] queue = new int[STANDINGS];
@@ -1374,6 +1428,12 @@ public final class DyeVats {
         Paths(Vats vats, Course course) {
             this.vats = vats;
             this.course = course;
+            for (int act = 0; act < ACTS; act++) {
+                int pair = Math.max(act - 12, 0) % 36;
+                item[act] = act < 6 ? DIP : act < 12 ? TAKE : act < 48 ? POUR : HALF;
+                first[act] = act < 12 ? act % 6 : pair / 6;
+                second[act] = act < 12 ? 0 : pair % 6;
+            }
         }
 
         boolean canSeek() {
@@ -1437,31 +1497,43 @@ public final class DyeVats {
         }
 
         private boolean goFrom(int index, int end) {
+            boolean idled = false;
             unfold(index);
             for (int act = 0; act < ACTS; act++) {
-                copyMeasures(base, course.now);
-                play(act);
-                int to = indexOf(course.now);
-                if (within(to, 0, STANDINGS - 1) && from[to] == 0 && queued < STANDINGS) {
-                    from[to] = index * ACTS + act + 1;
-                    queue[queued] = to;
-                    queued++;
-                    if (to == end) {
+                boolean idle = isIdle(item[act], first[act], second[act]);
+                // All idle ACTS lead to one standing, of which the first has been there already.
+                if (!idle || !idled) {
+                    copyMeasures(base, course.now);
+                    course.act(item[act], first[act], second[act]);
+                    course.kindsWork();
+                    if (comeTo(indexOf(course.now), index * ACTS + act + 1) && queue[queued - 1] == end) {
                         return true;
                     }
                 }
+                idled |= idle;
             }
             return false;
         }
 
-        private void play(int act) {
-            if (act < 12) {
-                course.act(act < 6 ? DIP : TAKE, act % 6, 0);
-            } else {
-                int pair = (act - 12) % 36;
-                course.act(act < 48 ? POUR : HALF, pair / 6, pair % 6);
+        private boolean isIdle(int act, int x, int y) {
+            if (act == DIP) {
+                return base[x] >= vats.brim[x];
             }
-            course.kindsWork();
+            if (act == TAKE) {
+                return base[x] == 0;
+            }
+            return x == y || base[x] < (act == HALF ? 2 : 1) || base[y] >= vats.brim[y];
+        }
+
+        // Whether it is the first time.
+        private boolean comeTo(int index, int by) {
+            if (!within(index, 0, STANDINGS - 1) || from[index] != 0 || queued >= STANDINGS) {
+                return false;
+            }
+            from[index] = by;
+            queue[queued] = index;
+            queued++;
+            return true;
         }
 
         private void retrace(int end, int acts) {

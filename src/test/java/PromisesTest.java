@@ -235,11 +235,42 @@ public final class PromisesTest {
         recipe(x, 1, "wa(tawb(tb)ia(db:k))dd");
         due(6, "nested", x.run(1, 100, 0), 2);
         due(6, "nested steps", x.run(1, 100, 1), 19);
+        longRun(20000);
+        longRun(19999);
+        longRun(1234);
+        longRun(17);
         int[][] bad = {{-1, 1, 0}, {3, 1, 0}, {0, 0, 0}, {0, 20001, 0}, {0, LOW, 0}, {0, 1, -1}, {0, 1, 6}, {0, 1, 9}, {0, 1, 16}, {0, 1, HIGH}};
         for (int[] b : bad) due(6, "no such ones", x.run(b[0], b[1], b[2]), -1);
         spec(x, "k=3");
         due(6, "the spec holds", x.run(0, 3, 5), 1);
         due(6, "the spec does not", x.run(0, 30, 5), 0);
+    }
+
+    // A ROUND of eight STEPS, reckoned here STEP by STEP: two TAKEN, one SPILT at the BRIM, one by a leak.
+    private static void longRun(int limit) {
+        DyeVats x = new DyeVats();
+        x.vat(0, 0, 9, 1);
+        x.vat(1, 0, 9, 5);
+        x.vat(2, 0, 9, 5);
+        x.vat(3, 0, 2, 2);
+        x.vat(4, 1, 9, 0);
+        recipe(x, 0, "wa(tbdbtcdcdddetf)");
+        int spilt = 0, cloth = 0, colour = 0;
+        for (int n = 0; n < limit; n++) {
+            if (n % 8 == 1 || n % 8 == 3) { cloth++; colour = (7 * colour + (n % 8 == 1 ? 2 : 3)) % 1009; }
+            if (n % 8 == 5 || n % 8 == 6) spilt++;
+        }
+        due(6, "a long run ends", x.run(0, limit, 0), 3);
+        due(6, "its steps", x.run(0, limit, 1), limit);
+        due(6, "its spilt", x.run(0, limit, 2), spilt);
+        due(6, "its cloth", x.run(0, limit, 3), cloth);
+        due(6, "its colour", x.run(0, limit, 4), colour);
+        due(6, "b", x.run(0, limit, 11), limit % 8 == 2 ? 4 : 5);
+        due(6, "c", x.run(0, limit, 12), limit % 8 == 4 ? 4 : 5);
+        x.done(0, limit);
+        due(7, "its colour", x.count(2), colour);
+        x.done(0, 8);
+        due(7, "its colour goes on", x.count(2), (7 * ((7 * colour + 2) % 1009) + 3) % 1009);
     }
 
     private static void kinds() {
