@@ -604,7 +604,6 @@ public final class DyeVats {
                 code[at] = item;
                 first[at] = x;
                 second[at] = y;
-                other[at] = at + 1;
                 size++;
                 if (item != JUMP) {
                     acts++;

@@ -144,6 +144,7 @@ public final class PromisesTest {
         for (int i = 1; i < bad.length; i++) due(5, bad[i], spec(x, bad[i]), -1000 - places[i]);
         due(5, "a sixth digit", spec(x, "123456=a"), -2005);
         due(5, "a sixth digit", spec(x, "a=1234567"), -2007);
+        due(5, "a sixth digit", spec(x, "a=123450"), -2007);
         due(5, "a seventh (", spec(x, "(((((((a=A"), -5006);
         due(5, "a seventh !", spec(x, "!!!!!!!a=A"), -5006);
         due(5, "a seventh [", spec(x, "[[[[[[[a"), -5006);
@@ -179,6 +180,11 @@ public final class PromisesTest {
         String[] no = {"a=2", "1<1", "1>1", "1=2", "!1=1", "1=1&1=2", "1=2|1=3", "(1=2|1=1)&1=3", "1/0=0", "1%0=0", "!1/0=0", "!(1/0=0)", "1/0=0|1=1", "(1/0=0)|1=1", "1=1&1/[a-3]=0", "!(!(a/A=0))",
             "a/A=1|a/A=2|1=1"};
         for (String s : no) due(5, s, holds(s), false);
+        DyeVats x = new DyeVats();
+        for (int v = 0; v < 6; v++) x.vat(v, 0, 99, 10 + v);
+        recipe(x, 0, "dadbdcdddedf");
+        spec(x, "a=10&b=11&c=12&d=13&e=14&f=15&A=11&B=12&C=13&D=14&E=15&F=16");
+        due(5, "all letters", x.run(0, 100, 5), 1);
         due(5, "32 bits", holds("99999*99999=[14098*10000+6540]*10+9"), true);
         due(5, "32 bits around", holds("[32768*65535+32767]*2+1=0-1"), true);
         due(5, "the least number by -1", holds("[32768*65536]/[0-1]=32768*65536&[32768*65536]%[0-1]=0"), true);
@@ -269,6 +275,22 @@ public final class PromisesTest {
         due(6, "c", x.run(0, limit, 12), limit % 8 == 4 ? 4 : 5);
         x.done(0, limit);
         due(7, "its colour", x.count(2), colour);
+        recipe(x, 1, "tadadbtbdddd" + "wa(tbdbtcdcdddetf)");
+        x.vat(1, 0, 9, 5);
+        x.vat(2, 0, 9, 5);
+        colour = 0;
+        for (int n = 0; n < limit; n++) {
+            int v = n == 0 ? 0 : n == 3 || n > 5 && n % 8 == 7 ? 1 : n > 5 && n % 8 == 1 ? 2 : -1;
+            if (v >= 0) colour = (7 * colour + v + 1) % 1009;
+        }
+        int rounds = (limit - 6) / 8, rest = (limit - 6) % 8;
+        due(6, "with a way ahead: spilt", x.run(1, limit, 2), 2 + 2 * rounds + Math.max(0, Math.min(2, rest - 5)));
+        due(6, "with a way ahead: cloth", x.run(1, limit, 3), 2 + 2 * rounds + (rest > 3 ? 2 : rest > 1 ? 1 : 0));
+        due(6, "with a way ahead: colour", x.run(1, limit, 4), colour);
+        due(6, "with a way ahead: steps", x.run(1, limit, 1), limit);
+        x.vat(1, 0, 9, 5);
+        x.vat(2, 0, 9, 5);
+        colour = x.count(2);
         x.done(0, 8);
         due(7, "its colour goes on", x.count(2), (7 * ((7 * colour + 2) % 1009) + 3) % 1009);
     }
@@ -296,6 +318,9 @@ public final class PromisesTest {
         due(6, "one more is not two", x.run(0, 9, 10), 6);
         x.vat(1, 0, 3, 3);
         due(6, "no room", x.run(0, 9, 10), 6);
+        x.vat(4, 3, 9, 4);
+        due(6, "e joined with f", x.run(0, 9, 15), 1);
+        x.vat(4, 0, 9, 0);
         x.vat(5, 3, 9, 8);
         due(6, "f joined with a", x.run(0, 9, 15), 7);
         due(6, "into a", x.run(0, 9, 10), 7);
@@ -362,6 +387,18 @@ public final class PromisesTest {
         int[][] bad = {{-1, 1, 1, 0}, {3, 1, 1, 0}, {0, 0, 1, 0}, {0, 64, 1, 0}, {0, -1, 1, 0}, {0, 15, 1, 0}, {0, 63, 1, 0}, {0, 1, 0, 0}, {0, 1, 21, 0}, {0, 1, 1, -2}, {0, 1, 1, 6}, {0, LOW, 1, 0}};
         for (int[] b : bad) due(8, "no such ones", x.proved(b[0], b[1], b[2], b[3]), -3);
         due(8, "nothing is changed", x.count(10), 50);
+        x = new DyeVats();
+        x.vat(5, 0, 1, 1);
+        spec(x, "f=9");
+        due(8, "a bound of 1", x.proved(0, 32 + 16, 1, -1), 4);
+        due(8, "from 0 on", x.proved(0, 32 + 16, 1, 5), 0);
+        spec(x, "f=0");
+        due(8, "f", x.proved(0, 32, 20, 5), 1);
+        due(8, "f", x.proved(0, 32, 20, -1), 1);
+        spec(x, "f=0|e=0");
+        due(8, "e first", x.proved(0, 48, 20, 4), 1);
+        due(8, "then f", x.proved(0, 48, 20, 5), 1);
+        due(8, "how many", x.proved(0, 48, 20, -1), 20);
     }
 
     private static void alike() {
@@ -452,9 +489,32 @@ public final class PromisesTest {
         x.vat(0, 0, 99, 99);
         due(11, "neither within 20000", x.round(0, 0), 2);
         due(11, "neither: none", x.round(0, 1), -2);
+        wheel(20000);
+        wheel(19999);
+        wheel(20001);
         edge(20000);
         edge(19999);
         edge(20001);
+    }
+
+    // A ROUND of just so many STEPS from the beginning on: n (6 b + 8) + 3, and DIPS at a full VAT.
+    private static void wheel(int steps) {
+        for (int n = 1; n <= 99; n++) {
+            for (int b = 1; b <= 99; b++) {
+                int rest = steps - n * (6 * b + 8) - 3;
+                if (rest < 0 || rest > 9) continue;
+                DyeVats x = new DyeVats();
+                x.vat(0, 0, 99, n);
+                x.vat(1, 0, 99, b);
+                x.vat(5, 0, 1, 1);
+                recipe(x, 0, "wf(wa(tadewb(tbdc)wc(tcdb))we(teda)" + many("df", rest) + ")");
+                due(11, "a wheel of " + steps, x.round(0, 0), steps <= 20000 ? 1 : 2);
+                due(11, "a wheel of " + steps, x.round(0, 1), steps <= 20000 ? 0 : -2);
+                due(11, "a wheel of " + steps, x.round(0, 2), steps <= 20000 ? steps : -2);
+                return;
+            }
+        }
+        due(11, "no wheel of " + steps, 0, 1);
     }
 
     // A way of just so many STEPS to an end, or to the second coming of a ROUND of two.
@@ -542,6 +602,12 @@ public final class PromisesTest {
         due(12, "joined by d c", shortest(x, 0, 3, 1, 0, 0, 0, 0), 2);
         x.vat(0, 2, 9, 4);
         due(12, "blind matters not", shortest(x, -1, 0, 4, 0, 0, 0, 0), 1);
+        // no DIP and no TAKING is idle: p aa is the first that leaves all to the joined one
+        x = new DyeVats();
+        for (int v = 0; v < 6; v++) x.vat(v, v == 0 ? 3 : 0, v == 0 ? 4 : 2, v == 0 ? 3 : 1);
+        due(12, "p aa", shortest(x, 0, 2, 2, 1, 1, 1, 1), 12);
+        for (int v = 0; v < 6; v++) x.vat(v, 0, 0, 0);
+        due(12, "one standing alone", shortest(x, -1, 0, 0, 0, 0, 0, 0), 0);
         x = new DyeVats();
         for (int v = 0; v < 6; v++) x.vat(v, 0, v == 4 || v == 5 ? 3 : 0, v == 4 ? 2 : 0);
         due(12, "h ef", shortest(x, 0, 0, 0, 0, 0, 1, 1), 48 + 4 * 6 + 5);
@@ -581,6 +647,8 @@ public final class PromisesTest {
         spec(x, "s=2");
         due(13, "kinds work once behind it", x.slips(1, 100, 1), 2);
         due(13, "kinds work behind what is left out", x.slips(1, 100, 0), 2);
+        spec(x, "A=a+3");
+        due(13, "twice, not oftener", x.slips(1, 100, 1), 2);
         recipe(x, 1, "wa(ta)");
         spec(x, "k=1");
         due(13, "a loop one time more", x.slips(1, 100, 0), 3);
@@ -754,6 +822,12 @@ public final class PromisesTest {
         due(20, "all four bytes", x.check(1), 0);
         x.feed(-1, 2, 3, 4, 5);
         due(20, "all four bytes", x.check(1), 0);
+        x.feed(1, 2, 3, 4, 5);
+        x.check(0);
+        x.feed(0x01000001, 2, 3, 4, 5);
+        due(20, "the highest byte", x.check(1), 0);
+        x.feed(0x80000001, 2, 3, 4, 5);
+        due(20, "the highest bit", x.check(1), 0);
         x.feed(1, 2, 3, 4, 5);
         due(20, "no such n", x.check(7), -2);
         due(20, "no such n", x.check(-1), -2);
