@@ -14,7 +14,7 @@ import java.util.regex.Matcher;
 import java.util.regex.Pattern;
 
 /** What can be seen of ../shared/LANGUAGE.md from outside: the face, forbidden words, sizes, the room. */
-public final class LanguageTest {
+public final class LanguageTest extends Town {
     private static int wrong = 0;
 
     private static void must(boolean holds, String what) {
@@ -105,14 +105,6 @@ public final class LanguageTest {
         return ((com.sun.management.ThreadMXBean) java.lang.management.ManagementFactory.getThreadMXBean()).getThreadAllocatedBytes(Thread.currentThread().getId());
     }
 
-    private static void text(DyeVats x, String s) {
-        for (int i = 0; i < s.length(); i += 20) {
-            int[] n = new int[5];
-            for (int j = 0; j < 20; j++) n[j / 4] = n[j / 4] << 8 | (i + j < s.length() ? s.charAt(i + j) : 'a');
-            x.feed(n[0], n[1], n[2], n[3], n[4]);
-        }
-    }
-
     // A new object makes all rows; a call makes nothing, so that a run of 512 calls has room enough.
     private static void room() {
         dearest(new DyeVats());
@@ -128,24 +120,17 @@ public final class LanguageTest {
 
     private static void dearest(DyeVats x) {
         for (int v = 0; v < 6; v++) x.vat(v, v == 0 ? 1 : 3, 99, 50);
-        text(x, "db");
-        must(x.recipe(2, 2) == 1, "a recipe is read");
-        text(x, "wb(dadbpcdhef)");
-        must(x.recipe(0, 14) == 5, "a recipe is read");
-        text(x, "a*a+b*b-[c+d]*[e%3]<n*n*n&!(A=B|C=D)");
-        must(x.spec(37 - 1) == 1, "a spec is read");
+        must(recipe(x, 2, "db") == 1, "a recipe is read");
+        must(recipe(x, 0, "wb(dadbpcdhef)") == 5, "a recipe is read");
+        must(spec(x, "a*a+b*b-[c+d]*[e%3]<n*n*n&!(A=B|C=D)") == 1, "a spec is read");
         must(x.proved(0, 7, 20, -1) >= 0, "proved");
         must(x.alike(0, 0, 7, 20, -1) == 0, "alike");
         must(x.fit(0, 7, 20, 1, -1) >= 0, "fit");
         must(x.round(0, 0) >= 0, "round");
         must(x.slips(0, 2000, 0) >= 0, "slips");
-        for (int i = 0; i < 8; i++) {
-            text(x, "      ");
-            must(x.sum(i, 0, 10, 10) == 1000, "sum");
-        }
+        for (int i = 0; i < 8; i++) must(sum(x, i, 0, 10, 10, 32, 32, 32, 32, 32, 32) == 1000, "sum");
         must(x.order(255, 7) >= 0, "order");
         for (int v = 0; v < 6; v++) x.vat(v, v == 0 ? 1 : 3, v < 2 ? 99 : v == 2 ? 1 : 0, 0);
-        x.feed('c' << 24 | 'b' << 16, 0, 0, 0, 0);
-        must(x.shortest(-1) == -2, "shortest");
+        must(shortest(x, -1, 99, 98, 0, 0, 0, 0) == -2, "shortest");
     }
 }

@@ -1,32 +1,11 @@
 /** Promise by promise: ordinary inputs, the edges that the document names, wrong inputs. */
-public final class PromisesTest {
+public final class PromisesTest extends Town {
     private static int wrong = 0;
-    private static final int LOW = Integer.MIN_VALUE;
-    private static final int HIGH = Integer.MAX_VALUE;
 
     private static void due(int promise, String what, int got, int want) {
         if (got != want) { wrong++; System.out.println("promise " + promise + ": " + what + " answered " + got + ", due is " + want); }
     }
     private static void due(int promise, String what, boolean got, boolean want) { due(promise, what, got ? 1 : 0, want ? 1 : 0); }
-
-    // The tape is filled up with the letter a behind the text.
-    private static void fed(DyeVats x, String s) {
-        for (int i = 0; i < s.length(); i += 20) {
-            int[] n = new int[5];
-            for (int j = 0; j < 20; j++) n[j / 4] = n[j / 4] << 8 | (i + j < s.length() ? s.charAt(i + j) : 'a');
-            x.feed(n[0], n[1], n[2], n[3], n[4]);
-        }
-    }
-    private static int recipe(DyeVats x, int w, String s) { fed(x, s); return x.recipe(w, s.length()); }
-    private static int spec(DyeVats x, String s) { fed(x, s); return x.spec(s.length()); }
-    private static String bytes(int... b) {
-        StringBuilder s = new StringBuilder();
-        for (int i : b) s.append((char) i);
-        return s.toString();
-    }
-    private static int shortest(DyeVats x, int what, int... m) { fed(x, bytes(m)); return x.shortest(what); }
-    private static int sum(DyeVats x, int i, int w, int due, int price, int... m) { fed(x, bytes(m)); return x.sum(i, w, due, price); }
-    private static String many(String s, int n) { return s.repeat(n); }
 
     private static boolean holds(String s) {
         DyeVats x = new DyeVats();
