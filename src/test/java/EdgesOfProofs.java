@@ -489,6 +489,7 @@ final class EdgesOfProofs extends Edges {
         due("the last standing of 20000", shortest(x, 0, 99, 99, 1, 0, 0, 0), 2);
         due("68 * 98 * 3 = 19992", shortest(brims(67, 97, 2), -1, 1, 0, 0, 0, 0, 0), 1);
         due("1", shortest(brims(), -1, 0, 0, 0, 0, 0, 0), 0);
+        due("1 * 10 * 1 * 10", shortest(brims(0, 9, 0, 9), -1, 0, 3, 0, 2, 0, 0), 5);
         due("as at first", shortest(new DyeVats(), -1, 0, 0, 0, 0, 0, 0), -3);
         due("64 * 64 * 64 * 64 * 64 * 4: 32 bits around", shortest(brims(63, 63, 63, 63, 63, 3), -1, 0, 0, 0, 0, 0, 0), -3);
         due("32 bits around to few", shortest(brims(95, 95, 95, 63, 63, 31), -1, 0, 0, 0, 0, 0, 0), -3);

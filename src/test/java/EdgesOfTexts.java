@@ -275,6 +275,9 @@ final class EdgesOfTexts extends Edges {
         spec(x, "6/[a-2]>0");
         // a 2 is divided by 0; a 0 and 1 give less than 0, a 3 gives 6
         due("of BEGINNINGS", x.proved(0, 1, 3, -1), 3);
+        // Of each 441 with one a: a 0 is divided by 0, a 1 alone holds.
+        spec(x, "1+1/a=2");
+        due("of many BEGINNINGS", x.proved(0, 7, 20, -1), 20 * 441);
     }
 
     @Says(promise = 0, words = " Of a C as much is asked, from the left, as matters.")
@@ -427,6 +430,16 @@ final class EdgesOfTexts extends Edges {
         due("it does not hold", x.run(0, 1, 5), 0);
         due("a shorter one", spec(x, "1=1"), 1);
         due("it holds", x.run(0, 1, 5), 1);
+        // What the ones before had behind the last PIECE is no part of the new one.
+        String[] before = {"1=1|!1=2", "1=1|1=2&1=2", "1=1|1=2|1=2", "1=1|1+1=2", "1=1|1=1+1"};
+        for (String s : before) {
+            spec(x, s);
+            spec(x, s);
+            spec(x, "1=1|1=2");
+            due("behind " + s, x.run(0, 1, 5), 1);
+            spec(x, "1=2&1=1");
+            due("behind " + s, x.run(0, 1, 5), 0);
+        }
     }
 
     @Says(promise = 5, words = " a FAULT: as above (the one before stays);")
